@@ -18,7 +18,7 @@ public final class EachSeesOne {
     private final Reader reader = new Reader();
     private final Water water = new Water();
     private final Crew crew = new Crew();
-    private final Boat barge = new Boat();
+    private final Boat theBarge = new Boat();
     private final Trial trial = new Trial(water, crew);
     private final Inquiry inquiry = new Inquiry(water, crew);
     private final Row wakeCells = new Row(WAKE_ROOM);
@@ -90,28 +90,28 @@ public final class EachSeesOne {
     // ---- the barge
 
     public int stroke() {
-        if (barge.end != GOING) {
+        if (theBarge.end != GOING) {
             return NO;
         }
-        barge.pullOnce(water, crew, 0, 0);
-        return barge.end;
+        theBarge.pullOnce(water, crew, 0, 0);
+        return theBarge.end;
     }
 
     public int put(int c, int bow) {
         if (!canBegin(c, bow)) {
             return BAD;
         }
-        barge.begin(water, c, bow);
-        return barge.end;
+        theBarge.begin(water, c, bow);
+        return theBarge.end;
     }
 
     public int barge(int what) {
         switch (what) {
-            case 0: return barge.cell;
-            case 1: return barge.bow;
-            case 2: return barge.mind;
-            case 3: return barge.strokes;
-            case 4: return barge.end;
+            case 0: return theBarge.cell;
+            case 1: return theBarge.bow;
+            case 2: return theBarge.mind;
+            case 3: return theBarge.strokes;
+            case 4: return theBarge.end;
             default: return BAD;
         }
     }
@@ -184,7 +184,7 @@ public final class EachSeesOne {
         int at = 0;
         for (int r = 0; r < ROWERS; r++) {
             for (int t = 1; t <= HUM_STROKES; t++) {
-                int strokes = trial.strokesHomeByHum(barge.cell, barge.bow, r, t);
+                int strokes = trial.strokesHomeByHum(theBarge.cell, theBarge.bow, r, t);
                 if (strokes < fewest) {
                     fewest = strokes;
                     rower = r;
@@ -233,13 +233,13 @@ public final class EachSeesOne {
     }
 
     public int wrong() {
-        if (trial.leavesWake(barge, wakeCells, wakeLength, 0, 0)) {
+        if (trial.leavesWake(theBarge, wakeCells, wakeLength, 0, 0)) {
             return NONE;
         }
         int rowers = 0;
         for (int r = 0; r < ROWERS; r++) {
             for (int t = 1; t <= wakeLength; t++) {
-                if (trial.leavesWake(barge, wakeCells, wakeLength, 1 << r, t)) {
+                if (trial.leavesWake(theBarge, wakeCells, wakeLength, 1 << r, t)) {
                     rowers |= 1 << r;
                 }
             }
@@ -268,7 +268,7 @@ public final class EachSeesOne {
             return FULL;
         }
         Kept free = kept == 0 ? firstKept : secondKept;
-        free.take(barge, crew);
+        free.take(theBarge, crew);
         kept++;
         return kept;
     }
@@ -279,7 +279,7 @@ public final class EachSeesOne {
         }
         kept--;
         Kept last = kept == 0 ? firstKept : secondKept;
-        last.give(barge, crew);
+        last.give(theBarge, crew);
         return kept;
     }
 
@@ -299,7 +299,7 @@ public final class EachSeesOne {
         for (int r = 0; r < ROWERS; r++) {
             crew.teach(r, plan.mannerTold(r));
         }
-        barge.begin(water, water.cellAt(plan.x, plan.y), plan.bow);
+        theBarge.begin(water, water.cellAt(plan.x, plan.y), plan.bow);
         wakeLength = 0;
         kept = 0;
         inquiry.forgetBest();

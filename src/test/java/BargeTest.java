@@ -151,6 +151,19 @@ public final class BargeTest {
         Check.due("a MANNER changed: what is borne stays", x.barge(2), 1);
         x.stroke();
         Check.due("bears 0 by a MANNER below 4", x.barge(2), 0);
+        // what was borne in mind by another MANNER does not count for one below 4
+        for (int t = 0; t < 4; t++) {
+            x = Check.laid("w8,3;h7,2;b1,1,1;m0,19;");
+            x.stroke();
+            x.manner(0, t);
+            Check.due("bears 1", x.barge(2), 1);
+            Check.due("bears 1, in the open, manner " + t, x.stroke(), 0);
+            Check.due("bears 1, in the open, manner " + t, x.barge(0), t == 1 || t == 3 ? 11 : 10);
+            x = Check.laid("w8,3;h7,2;b6,1,1;m0,19;");
+            x.stroke();
+            x.manner(0, t);
+            Check.due("bears 1, at the edge, manner " + t, x.stroke(), t >= 2 ? 2 : 0);
+        }
     }
 
     private static void mindful() {

@@ -8,6 +8,7 @@ public final class KnownTest {
         wrongGoesOn();
         fogByTheFirstStroke();
         fogBorneInMind();
+        fogOfNinetyNine();
         fogBad();
         keep();
         back();
@@ -187,6 +188,17 @@ public final class KnownTest {
         Check.due("wrong: struck before", z.wrong(), 0);
         z.put(5, 1);
         Check.due("wrong: struck in it", z.wrong(), -4);
+        // by what each truly SEES
+        EachSeesOne v = Check.laid("w8,2;h7,1;m0,1;m2,0;");
+        wakeOf(v, 1, 2, 3, 4, 5, 6, 7, 7);
+        Check.due("wrong: stops at the edge", v.wrong(), -4);
+        wakeOf(v, 1, 2, 3, 4, 5, 6, 7, 7, 7, 7);
+        Check.due("wrong: stays there", v.wrong(), -4);
+        wakeOf(v, 1, 1, 2, 3, 4, 5, 6, 7, 7);
+        Check.due("wrong: a STROKE lost on the way", v.wrong(), 5);
+        v.manner(0, 2);
+        wakeOf(v, 0, 0, 1, 1);
+        Check.due("wrong: pulls at an edge alone", v.wrong(), 1);
         // twenty
         EachSeesOne w = Check.laid("h5,5;");
         wakeOf(w, 0, 0, 0, 0, 0, 0, 0, 0, 0, 0, 0, 0, 0, 0, 0, 0, 0, 0, 0, 1);
@@ -254,6 +266,18 @@ public final class KnownTest {
                 Check.due("fog in STROKE 1, home in 2: " + z, y.fog(z, 2, 1, 0), 1);
             }
         }
+    }
+
+    /** A FOG is of 99 STROKES at most, too. */
+    private static void fogOfNinetyNine() {
+        EachSeesOne x = Check.laid("w3,8;h1,4;s3,0;m0,27;m1,24;m2,51;m3,49;");
+        Check.due("STRUCK in STROKE 99", x.fog(4, 0, 1, 0), 2);
+        x = Check.laid("w8,7;x7,3;x7,5;h1,3;s1,9;m0,1;m1,30;m2,57;m3,16;");
+        Check.due("STRUCK in STROKE 99", x.fog(0, 0, 1, 0), 2);
+        x = Check.laid("w6,7;x2,5;x3,5;x1,4;h5,3;s1,7;m0,51;m1,1;m2,39;m3,19;");
+        Check.due("STRUCK in STROKE 100 alone", x.fog(0, 0, 1, 0), 0);
+        x = Check.laid("w6,4;x2,2;x2,3;x5,1;h5,3;s0,0;m0,13;m1,28;m2,48;m3,19;");
+        Check.due("STRUCK in STROKE 100 alone", x.fog(1, 0, 1, 0), 0);
     }
 
     private static void fogBad() {

@@ -11,6 +11,7 @@ public final class RunsTest {
         mind();
         stranger();
         seats();
+        forgets();
         hum();
         humEdges();
         badNumbers();
@@ -72,6 +73,10 @@ public final class RunsTest {
         Check.due("99, each ninth", x.run(42, 3, 1), 99);
         Check.due("homes, each ninth", x.homes(), 42);
         Check.due("mind, each ninth", x.mind(0, 0), 167);
+        // of each of these some START is HOME in STROKE 100 and not in 99
+        Check.due("homes: 100 is too late", Check.laid("w8,8;h7,6;s1,5;m0,27;m1,18;m2,22;m3,34;").homes(), 36);
+        Check.due("homes: 100 is too late", Check.laid("w6,2;h4,0;s1,6;m0,35;m1,6;m2,49;m3,35;").homes(), 20);
+        Check.due("homes: 100 is too late", Check.laid("w4,7;h0,1;s0,9;m0,3;m1,31;m2,62;m3,48;").homes(), 31);
     }
 
     private static void seen() {
@@ -232,7 +237,45 @@ public final class RunsTest {
             y.manner(r, manners[due[r + 1]]);
         }
         Check.due("seats: by them", y.homes(), 15);
+        Check.due("seats: the last one who does", Check.laid("h5,5;m0,1;m1,1;m2,1;m3,3;").seats(-1), seatsMost());
         Check.due("seats: two pull alike", Check.laid("h5,5;m0,1;m1,1;m2,1;m3,1;").seats(3), 3);
+    }
+
+    /** HOMES by three of manner 1 and one of 3, he on that of four benches where it is most. */
+    private static int seatsMost() {
+        int most = 0;
+        for (int r = 0; r < 4; r++) {
+            EachSeesOne x = Check.laid("h5,5;m0,1;m1,1;m2,1;m3,1;m" + r + ",3;");
+            most = Math.max(most, x.homes());
+        }
+        return most;
+    }
+
+    /** What was found in another WATER is forgotten, where no MANNERS are better than the first ones. */
+    private static void forgets() {
+        EachSeesOne x = new EachSeesOne();
+        Check.due("mind: 1", x.mind(0, 1), 1);
+        Check.due("best: 1", x.best(0), 1);
+        x.manner(1, 3);
+        Check.due("seats: 2", x.seats(1), 2);
+        Check.write(x, "w2,2;h0,0;h0,1;h1,0;h1,1;");
+        Check.due("no STARTS", x.lay(), 0);
+        for (int r = 0; r < 4; r++) {
+            Check.due("no STARTS: best " + r, x.best(r), 0);
+            Check.due("no STARTS: mind " + r, x.mind(r, 1), 0);
+            Check.due("no STARTS: stranger " + r, x.stranger(r, 1), 0);
+        }
+        for (int r = 0; r < 4; r++) {
+            x.best(-1);
+            x.mind(2, 0);
+            Check.due("no STARTS: seats " + r, x.seats(r), r);
+            Check.due("no STARTS: HOMES", x.seats(-1), 0);
+        }
+        x.wipe();
+        Check.write(x, "h5,5;");
+        x.lay();
+        Check.due("best: 1 again", x.best(0), 1);
+        Check.due("mind: 1 again", x.mind(0, 1), 1);
     }
 
     private static void dueHum(String name, EachSeesOne x, int... due) {
@@ -299,10 +342,12 @@ public final class RunsTest {
         dueHum("40", x, 43, 3, 40);
         x = Check.laid("w4,8;h0,5;s2,8;m0,3;m1,48;m2,1;m3,2;");
         dueHum("HOME in 40 by 40", x, 40, 0, 40);
-        // HOME in STROKE 99 by a hum counts, in a later one not
-        x = Check.laid("w8,8;h7,7;s1,9;");
-        x.put(7, 2);
-        dueHum("seven rows by one pull: no", x, -4, -4, -4);
+        x = Check.laid("w4,8;h1,5;s0,0;m0,59;m1,29;m2,17;m3,35;");
+        dueHum("41 would bring it HOME in 41", x, -4, -4, -4);
+        x = Check.laid("w6,7;h3,3;s1,9;m0,21;m1,47;m2,48;m3,58;");
+        dueHum("41 would bring it HOME in 41", x, -4, -4, -4);
+        x = Check.laid("w8,8;x1,7;x5,0;h7,3;s2,4;m0,11;m1,46;m2,10;m3,29;");
+        dueHum("HOME in 99", x, 99, 0, 30);
     }
 
     private static void badNumbers() {

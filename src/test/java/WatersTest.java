@@ -112,7 +112,7 @@ public final class WatersTest {
             "w", ";", ",", "w;", "w2;", "w2,;", "w,2;", "w2,2", "w2,2,2;", "w2,2,", "w2;2;", "w2,2,;", "w2 ,2;", "w 2,2;", "W2,2;",
             "v", "v1", "v;", "v1,1;", "v001;", "v1,;", "v-1;", "v+1;", "v1:", "v/;", "v1;;".substring(3), "m0,063;", "b0,0;", "b0,0,0,0;",
             "b0,0,0", "h0;", "h0,0,0;", "x0;", "s0;", "m0;", "a1;", "y1,1;", "z;", " v1;", "\u00f71;", "\u0000", "v\u0000;", "v\u00b1;",
-            "1v;", "vv1;"};
+            "1v;", "vv1;", "x,0;", "x0,;", "x,;", "m,;", "b,,;", "b0,,0;", "m0,:;", "m0,A;", "m0,/;", "m0,0/;", "m0,1:;", "m0,a;", "v1 ;", "v\n;"};
         for (String text : bad) {
             Check.due("fault of " + text, faultOf(text), 0);
             Check.due("fault behind others of " + text, faultOf("h1,1;v01;" + text), 9);
@@ -262,10 +262,24 @@ public final class WatersTest {
         Check.due("cell 64", y.cell(64), -1);
         y.wipe();
         Check.write(y, "w8,8;h0,7;b1,0,0;");
-        y.lay();
+        Check.due("laid anew", y.lay(), 252);
         Check.due("cell laid anew", y.cell(7), 0);
         Check.due("cell laid anew", y.cell(63), 0);
         Check.due("cell laid anew", y.cell(56), 2);
+        // what another text told of the first CELL and ROWER, too
+        y.wipe();
+        Check.write(y, "x0,0;b1,0,1;h5,5;m0,9;m3,9;");
+        Check.due("a ROCK in the first", y.lay(), 136);
+        y.wipe();
+        Check.write(y, "h0,0;h5,5;");
+        Check.due("HOME in the first", y.lay(), 136);
+        Check.due("HOME in the first", y.cell(0), 2);
+        Check.due("manner of the first", y.manner(0, 9), 0);
+        Check.due("manner of the last", y.manner(3, 9), 0);
+        y.wipe();
+        Check.write(y, "h5,5;");
+        Check.due("open", y.lay(), 140);
+        Check.due("open", y.cell(0), 0);
     }
 
     private static void sees() {
