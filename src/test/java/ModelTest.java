@@ -2,7 +2,8 @@ import java.util.Random;
 
 /** Long runs of mixed calls, each answer beside the slow model's; the seeds are fixed, so every run is the same. */
 public final class ModelTest {
-    private static final int RUNS = 60, CALLS = 512;
+    // a step is of some 120 calls at most, and an object of 512
+    private static final int RUNS = 900, CALLS = 390;
 
     private final Random dice;
     private final EachSeesOne x = new EachSeesOne();
@@ -16,7 +17,11 @@ public final class ModelTest {
     public static void main(String[] args) {
         for (int run = 0; run < RUNS; run++) {
             ModelTest test = new ModelTest(run);
-            for (int i = 0; i < CALLS; i++) {
+            int from = Check.asked();
+            if (run % 4 != 0) {
+                test.newText(run + ": ");
+            }
+            for (int i = 0; i < CALLS && Check.asked() - from < CALLS; i++) {
                 test.call(run + "/" + i + ": ");
             }
         }
